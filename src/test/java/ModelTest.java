@@ -20,7 +20,7 @@ public final class ModelTest {
     }
 
     public static void main(String[] args) {
-        for (int seed = 1; seed <= 400; seed++) {
+        for (int seed = 1; seed <= 300; seed++) {
             new ModelTest(seed).run();
         }
         Due.end();
@@ -35,8 +35,8 @@ public final class ModelTest {
     }
 
     private String part(int depth) {
-        int n = below(depth >= 5 ? 2 : 5);
-        switch (n) {
+        boolean isDeep = depth >= 4 && below(60) != 0;
+        switch (below(isDeep ? 3 : 6)) {
             case 0:
                 return "" + below(below(3) == 0 ? 9999 : 12);
             case 1:
@@ -44,8 +44,10 @@ public final class ModelTest {
                 return one(FACTS);
             case 3:
                 return "not " + part(depth + 1);
-            default:
+            case 4:
                 return "(" + expression(depth + 1) + ")";
+            default:
+                return one(FACTS);
         }
     }
 
@@ -73,8 +75,8 @@ public final class ModelTest {
     }
 
     private String county() {
-        int shots = below(12);
-        int halls = below(8);
+        int shots = below(20) == 0 ? 11 : 2 + below(9) - below(3);
+        int halls = below(20) == 0 ? 7 : 1 + below(6) - (below(8) == 0 ? 1 : 0);
         StringBuilder text = new StringBuilder();
         for (int i = 0; i < shots; i++) {
             text.append("shot ").append(NAMES[i]).append(" sort ").append(below(6)).append(" long ")
@@ -83,7 +85,8 @@ public final class ModelTest {
         for (int i = below(1 + shots); i > 0; i--) {
             int a = below(shots);
             int b = below(6) == 0 ? below(shots) : below(a + 1);
-            if (a != b) {
+            boolean isNew = text.indexOf("needs " + NAMES[a] + " " + NAMES[b]) < 0;
+            if (a != b && isNew || below(100) == 0) {
                 text.append("needs ").append(NAMES[a]).append(' ').append(NAMES[b]).append(';');
             }
         }
@@ -106,8 +109,7 @@ public final class ModelTest {
                     text.append("give ").append(hallName()).append(' ').append(shotName()).append(';');
                     break;
                 case 3:
-                    text.append("trade ").append(hallName()).append(' ').append(hallName()).append(' ')
-                        .append(shotName()).append(';');
+                    text.append(trade());
                     break;
                 default:
                     text.append("turn;");
@@ -117,14 +119,20 @@ public final class ModelTest {
         return text.toString();
     }
 
+    private String trade() {
+        String from = hallName();
+        String to = hallName();
+        return from.equals(to) && below(20) != 0 ? "show;" : "trade " + from + " " + to + " " + shotName() + ";";
+    }
+
     private String hallName() {
         int n = model.hallList.size();
-        return HALLS[n == 0 || below(30) == 0 ? below(6) : below(n)];
+        return HALLS[n == 0 || below(100) == 0 ? below(6) : below(n)];
     }
 
     private String shotName() {
         int n = model.shots.size();
-        return NAMES[n == 0 || below(30) == 0 ? below(10) : below(n)];
+        return NAMES[n == 0 || below(100) == 0 ? below(10) : below(n)];
     }
 
     private String spoilt(String text) {
@@ -184,7 +192,7 @@ public final class ModelTest {
             if (below(4) == 0) {
                 readCounty(below(2) == 0 ? spoilt(county()) : county());
             }
-            if (below(3) == 0) {
+            if (below(2) == 0) {
                 readRound(below(3) == 0 ? spoilt(round()) : round());
             }
             for (int k = below(6); k > 0; k--) {
@@ -256,7 +264,7 @@ public final class ModelTest {
             due("judged(" + what + ")", x.judged(what), model.judged(what));
             due("other(" + what + ")", x.other(what), model.other(what));
         }
-        for (int what = -3; what <= 6; what++) {
+        for (int what : new int[] {-2, -1, below(6), below(3), 6}) {
             due("order(" + what + ")", x.order(what), model.order(what));
         }
         due("silly()", x.silly(), model.silly());
