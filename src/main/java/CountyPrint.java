@@ -46,6 +46,8 @@ public final class CountyPrint {
     private final Mark[] marks;
     private final Ranking ranking;
     private final Draws draws;
+    /** What each hall would show of the print: filled anew by each call that uses it. */
+    private final int[] rows;
 
     public CountyPrint() {
         land = new County();
@@ -64,6 +66,7 @@ public final class CountyPrint {
         }
         ranking = new Ranking();
         draws = new Draws();
+        rows = new int[MAX_HALLS];
     }
 
     public int feed(long a, long b, long c) {
@@ -293,6 +296,7 @@ public final class CountyPrint {
     }
 
     public int ride() {
+        fillRows();
         int film = land.film();
         int fewest = NONE;
         for (int set = 0; set < 1 << land.hallCount; set++) {
@@ -366,9 +370,10 @@ public final class CountyPrint {
     }
 
     public int halls() {
+        fillRows();
         int set = 0;
         for (int hall = 0; hall < land.hallCount; hall++) {
-            if (sightings.fit(rowOfPrintAt(hall))) {
+            if (sightings.fit(rows[hall])) {
                 set |= 1 << hall;
             }
         }
@@ -539,15 +544,17 @@ public final class CountyPrint {
         return together;
     }
 
-    private int rowOfPrintAt(int hall) {
-        return now.print & ~land.takenOut(hall, now.print);
+    private void fillRows() {
+        for (int hall = 0; hall < MAX_HALLS; hall++) {
+            rows[hall] = now.print & ~land.takenOut(hall, now.print);
+        }
     }
 
     private int seenBy(int hallSet) {
         int seen = 0;
         for (int hall = 0; hall < land.hallCount; hall++) {
             if (((hallSet >> hall) & 1) == 1) {
-                seen |= rowOfPrintAt(hall) | now.drawers[hall];
+                seen |= rows[hall] | now.drawers[hall];
             }
         }
         return seen;
@@ -557,7 +564,7 @@ public final class CountyPrint {
         int shows = 0;
         for (int hall = 0; hall < land.hallCount; hall++) {
             if (((hallSet >> hall) & 1) == 1) {
-                shows += (rowOfPrintAt(hall) >> shot) & 1;
+                shows += (rows[hall] >> shot) & 1;
             }
         }
         return Math.max(shows, Integer.bitCount(hallSet) - shows);
@@ -602,7 +609,11 @@ public final class CountyPrint {
         static final int NO_TOKEN = 4;
         static final int LONGEST_WORD = 8;
         static final int LONGEST_NUMBER = 4;
+        /** The language's words; a blank ends each, and its place among them is its number. */
+        static final String WORDS = "shot sort long needs hall hates show give trade turn plain keen chapel miner not and or kind minutes place ahead ";
+        static final int WORD_COUNT = 21;
 
+        final long[] words = new long[WORD_COUNT];
         final char[] signs = new char[MAX_SIGNS];
         int size;
         int at;
@@ -610,8 +621,22 @@ public final class CountyPrint {
         int type;
         /** The letters, five bits each: two words are alike if these numbers are. */
         long word;
+        /** The number of the word in the language, NONE if it is no word of it. */
+        int keyword;
         int number;
         char sign;
+
+        Tape() {
+            int count = 0;
+            for (int i = 0; i < WORDS.length() && count < WORD_COUNT; i++) {
+                char letter = WORDS.charAt(i);
+                if (letter == ' ') {
+                    count++;
+                } else {
+                    words[count] = words[count] * 32 + (letter - 'a' + 1);
+                }
+            }
+        }
 
         void addBytes(long bytes) {
             for (int shift = 56; shift >= 0; shift -= 8) {
@@ -636,6 +661,7 @@ public final class CountyPrint {
             }
             end = at;
             sign = 0;
+            keyword = NONE;
             if (at >= size) {
                 type = END;
             } else if (isLetter(signs[at])) {
@@ -654,6 +680,11 @@ public final class CountyPrint {
                 end++;
             }
             type = end - at > LONGEST_WORD ? NO_TOKEN : WORD;
+            for (int i = 0; i < WORD_COUNT && type == WORD && keyword == NONE; i++) {
+                if (words[i] == word) {
+                    keyword = i;
+                }
+            }
         }
 
         private void takeNumber() {
@@ -702,9 +733,7 @@ public final class CountyPrint {
 
     /** Reads the tape as a county or as a round; each step answers false at a fault. */
     private static final class Reader {
-        /** A blank ends each; their places here are the numbers that follow. */
-        static final String WORDS = "shot sort long needs hall hates show give trade turn plain keen chapel miner not and or kind minutes place ahead ";
-        static final int WORD_COUNT = 21;
+        // The numbers of the words on the tape.
         static final int W_SHOT = 0;
         static final int W_SORT = 1;
         static final int W_LONG = 2;
@@ -720,6 +749,7 @@ public final class CountyPrint {
         static final int W_OR = 16;
         static final int W_KIND = 17;
         static final int W_AHEAD = 20;
+        // The kinds of faults.
         static final int CANNOT_STAND = 1;
         static final int NOT_TOLD = 2;
         static final int TOLD_ALREADY = 3;
@@ -728,22 +758,12 @@ public final class CountyPrint {
         static final int MAX_DEPTH = 5;
 
         final Tape tape;
-        final long[] words = new long[WORD_COUNT];
         County land;
         int fault;
 
         Reader(Tape tape, County land) {
             this.tape = tape;
             this.land = land;
-            int count = 0;
-            for (int i = 0; i < WORDS.length() && count < WORD_COUNT; i++) {
-                char sign = WORDS.charAt(i);
-                if (sign == ' ') {
-                    count++;
-                } else {
-                    words[count] = words[count] * 32 + (sign - 'a' + 1);
-                }
-            }
         }
 
         int readCounty(County into) {
@@ -751,7 +771,7 @@ public final class CountyPrint {
             into.clear();
             boolean isRight = true;
             for (int i = 0; i < MAX_SIGNS && isRight && tape.type != Tape.END; i++) {
-                switch (keyword()) {
+                switch (tape.keyword) {
                     case W_SHOT:
                         isRight = readShot();
                         break;
@@ -790,18 +810,6 @@ public final class CountyPrint {
         private boolean fail(int kind) {
             fault = kind + 16 * tape.at;
             return false;
-        }
-
-        /** The number of the word that is looked at, NONE if it is no word of the language. */
-        private int keyword() {
-            if (tape.type == Tape.WORD) {
-                for (int i = 0; i < WORD_COUNT; i++) {
-                    if (words[i] == tape.word) {
-                        return i;
-                    }
-                }
-            }
-            return NONE;
         }
 
         private boolean readShot() {
@@ -851,7 +859,7 @@ public final class CountyPrint {
             if (!takeNewName()) {
                 return false;
             }
-            int kind = keyword();
+            int kind = tape.keyword;
             if (kind < W_PLAIN || kind > W_MINER) {
                 return fail(CANNOT_STAND);
             }
@@ -864,7 +872,7 @@ public final class CountyPrint {
         }
 
         private boolean readPlanLine(Plan into) {
-            int keyword = keyword();
+            int keyword = tape.keyword;
             if (keyword < W_SHOW || keyword > W_TURN) {
                 return fail(CANNOT_STAND);
             }
@@ -908,8 +916,7 @@ public final class CountyPrint {
         }
 
         private boolean isName() {
-            int keyword = keyword();
-            return tape.type == Tape.WORD && (keyword == NONE || keyword >= W_KIND);
+            return tape.type == Tape.WORD && (tape.keyword == NONE || tape.keyword >= W_KIND);
         }
 
         private boolean takeNewName() {
@@ -935,7 +942,7 @@ public final class CountyPrint {
         }
 
         private boolean takeKeyword(int wanted) {
-            if (keyword() != wanted) {
+            if (tape.keyword != wanted) {
                 return fail(CANNOT_STAND);
             }
             tape.advance();
@@ -966,7 +973,7 @@ public final class CountyPrint {
                 return false;
             }
             for (int i = 0; i < MAX_SIGNS; i++) {
-                int keyword = keyword();
+                int keyword = tape.keyword;
                 if (keyword != W_AND && keyword != W_OR) {
                     return true;
                 }
@@ -1031,7 +1038,7 @@ public final class CountyPrint {
         }
 
         private boolean readPart(int depth) {
-            int keyword = keyword();
+            int keyword = tape.keyword;
             boolean isNumber = tape.type == Tape.NUMBER;
             boolean isFact = keyword >= W_KIND && keyword <= W_AHEAD;
             boolean isOpen = tape.isSign('(');
@@ -1334,11 +1341,11 @@ public final class CountyPrint {
             int hated = hatedIn(hall, row);
             switch (kinds[hall]) {
                 case KEEN:
-                    return Integer.lowestOneBit(hated);
+                    return hated & -hated;
                 case CHAPEL:
                     return hated | behind(hated, row);
                 case MINER:
-                    return hated & ~Integer.highestOneBit(row);
+                    return hated & ~lastOf(row);
                 default:
                     return hated;
             }
@@ -1391,6 +1398,16 @@ public final class CountyPrint {
         private int keyOf(int hall, int shot, int place) {
             boolean isKey = isHall(hall) && isShot(shot) && place >= 0 && place < MAX_SHOTS;
             return isKey ? (hall * MAX_SHOTS + shot) * MAX_SHOTS + place : NONE;
+        }
+
+        private int lastOf(int row) {
+            int last = 0;
+            for (int shot = 0; shot < shotCount; shot++) {
+                if (((row >> shot) & 1) == 1) {
+                    last = 1 << shot;
+                }
+            }
+            return last;
         }
 
         private int behind(int set, int row) {

@@ -53,6 +53,10 @@ public final class AskingTest {
         Due.due("can't be", x.judged(0), 1);
         Due.due("i takes a", x.judged(1), 4);
         Due.due("minutes", x.judged(2), 7 + 4 + 0 + 0 + 0);
+        x = Due.of(Counties.CALM);
+        Due.round(x, "show;turn;show;");
+        Due.due("all makes sense", x.judged(1), -1);
+        Due.due("minutes", x.judged(2), 16);
         x = Due.of("shot a sort 1 long 3;");
         Due.round(x, "turn;turn;show;show;");
         Due.due("no hall", x.judged(0), 2);
@@ -491,6 +495,12 @@ public final class AskingTest {
         Due.due("minutes of one", x.tours(0, 1, 0), 14);
         Due.due("senseless of one", x.tours(0, 1, 1), 1);
         Due.due("print of one", x.tours(0, 1, 2), 15);
+        // Seed 1: g = 1103527590: 16838 modulo 4 is 2: kin takes the kiss, 16 and no sense. Then
+        // g = 377401575: 5758 modulo 4 is 2: nothing is given back. g = 662824084: 10113 modulo 4 is 1:
+        // mine takes work: 9. g = 1147902781: 17515 modulo 4 is 3: nothing.
+        Due.due("minutes of two", x.tours(1, 2, 0), 16 + 9);
+        Due.due("senseless of two", x.tours(1, 2, 1), 1);
+        Due.due("print of two", x.tours(1, 2, 2), 2 + 8 + 16);
         Due.due("all is as ahead", x.count(2), 31);
         Due.due("all is as ahead", x.count(4) + x.count(5) + x.count(6) + x.count(9), 0);
         Due.due("shows 0", x.tours(0, 0, 0), -1);

@@ -9,6 +9,7 @@ public final class HandTest {
         undoing();
         sixteenAreUndone();
         marks();
+        marksInFull();
         counts();
         Due.end();
     }
@@ -223,6 +224,27 @@ public final class HandTest {
         Due.due("seen", x.count(8), 2);
         Due.due("mark(MIN)", x.mark(Integer.MIN_VALUE, true), false);
         Due.due("mark(MAX)", x.mark(Integer.MAX_VALUE, false), false);
+    }
+
+    /** What a mark holds of the round and of what was seen is held line by line. */
+    private static void marksInFull() {
+        CountyPrint x = Due.of(Counties.HATS);
+        Due.round(x, "show;give bap kiss;show;trade mine chap work;turn;");
+        x.see(0, true);
+        x.see(1, false);
+        Due.due("minutes", x.judged(2), 14 + 7);
+        Due.due("all can be", x.judged(0), -1);
+        Due.due("chap shows the kiss, not the hat", x.halls(), 8);
+        x.mark(2, false);
+        Due.due("a new round", Due.round(x, "give chap hat;turn;show;turn;turn;show;show;"), 0);
+        for (int i = 0; i < 6; i++) {
+            x.see(3, false);
+        }
+        Due.due("no hall", x.halls(), 0);
+        x.mark(2, true);
+        Due.due("minutes", x.judged(2), 14 + 7);
+        Due.due("all can be", x.judged(0), -1);
+        Due.due("chap", x.halls(), 8);
     }
 
     private static void counts() {
