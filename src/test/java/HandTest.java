@@ -245,6 +245,15 @@ public final class HandTest {
         Due.due("minutes", x.judged(2), 14 + 7);
         Due.due("all can be", x.judged(0), -1);
         Due.due("chap", x.halls(), 8);
+        x = Due.of(Counties.HATS);
+        x.mark(0, false);
+        x.see(2, true);
+        x.mark(1, false);
+        x.mark(0, true);
+        x.see(4, false);
+        Due.due("bap hates the shrug", x.halls(), 1);
+        x.mark(1, true);
+        Due.due("bap and kin show work", x.halls(), 5);
     }
 
     private static void counts() {
