@@ -20,6 +20,10 @@ final class Due {
         due(call, got ? 1 : 0, want ? 1 : 0);
     }
 
+    static int wrong() {
+        return wrong;
+    }
+
     static void end() {
         System.out.println(asked + " answers, " + wrong + " not as due");
         if (wrong != 0) {
