@@ -103,6 +103,7 @@ final class Edges {
             x.show();
         }
         x.trade(0, 2, 4);
+        x.trade(1, 0, 2);
         x.turn();
         x.show();
         x.give(0, 0);

@@ -164,6 +164,7 @@ public final class EdgesByHandTest {
         out("chapel", "place=5", 32);
         out("chapel", "kind=3", 2 + 4 + 8);
         out("chapel", "kind=0", 1 + 2 + 32);
+        out("chapel", "place=0 or place=3", 1 + 2 + 8 + 16);
         out("chapel", "1", 63);
         out("chapel", "0", 0);
     }
@@ -708,6 +709,19 @@ public final class EdgesByHandTest {
         Edges.alike("all stays", Edges.told(x), ahead);
     }
 
+    /** A turn of a ROUND turns its order: behind the last HALL of it comes another one than without. */
+    static void p12ATurnTurnsTheOrder() {
+        CountyPrint x = Due.of(Counties.HATS);
+        Due.round(x, "show;show;");
+        Due.due("bap and mine", x.judged(2), 14 + 7);
+        Due.round(x, "turn;show;show;");
+        Due.due("bap and chap, which takes hat and work", x.judged(2), 14 + 4);
+        Due.round(x, "turn;show;turn;show;");
+        Due.due("bap, then chap, which was next when it was turned", x.judged(2), 14 + 4);
+        Due.round(x, "turn;turn;show;show;");
+        Due.due("bap and mine", x.judged(2), 14 + 7);
+    }
+
     /** "minutes that were shown, together": forty shows of 600 minutes. */
     static void p12TheMostMinutes() {
         CountyPrint x = Due.of(Edges.shots(10).replace("long 1", "long 60") + "hall u plain hates 0;");
@@ -772,10 +786,12 @@ public final class EdgesByHandTest {
     static void p36WhatMarksHold() {
         CountyPrint x = Edges.busy();
         String ahead = Edges.told(x);
-        x.show();
+        for (int i = 0; i < 5; i++) {
+            x.show();
+        }
         x.turn();
         x.give(2, 4);
-        x.trade(1, 0, 2);
+        x.trade(0, 1, 2);
         Due.round(x, "show;turn;show;show;show;turn;");
         x.see(0, true);
         Due.due("back", x.mark(0, true), true);
@@ -798,13 +814,33 @@ public final class EdgesByHandTest {
         Due.due("lines and seen", x.count(7) * 10 + x.count(8), 0);
         Due.round(x, "turn;".repeat(40));
         for (int i = 0; i < 8; i++) {
-            x.see(1, true);
+            x.see(0, true);
         }
         x.mark(3, true);
         Due.due("lines and seen", x.count(7) * 10 + x.count(8), 408);
         Due.due("the fortieth line", x.judged(0), 39);
         Due.due("no kiss, but a shrug: mine and kin", x.halls(), 6);
         Due.due("8 there are", x.see(0, true), false);
+    }
+
+    /** "MARKS ... hold ... the ROUND": each line of it with its HALLS and its SHOT. */
+    static void p36AllOfARound() {
+        CountyPrint x = Due.of(Counties.HATS);
+        Due.round(x, "show;trade bap chap kiss;give chap kiss;trade bap mine shrug;turn;show;");
+        int[] judged = {x.judged(0), x.judged(1), x.judged(2)};
+        Due.due("all can be", judged[0], -1);
+        Due.due("the first makes no sense", judged[1], 0);
+        // bap 14, the kiss comes back; mine is next, turned or not, and takes kiss and work: 7.
+        Due.due("minutes", judged[2], 14 + 7);
+        x.mark(0, false);
+        for (int time = 0; time < 2; time++) {
+            Due.round(x, "turn;trade kin mine hat;give kin hat;trade kin chap hat;show;show;turn;");
+            Due.due("can't be", x.judged(0), 1);
+        }
+        x.mark(0, true);
+        for (int what = 0; what < 3; what++) {
+            Due.due("judged", x.judged(what), judged[what]);
+        }
     }
 
     /** "(nothing can be undone when one is gone back to)"; laying one leaves what can be undone. */

@@ -259,6 +259,10 @@ public final class EdgesOfAskingTest {
         x.show();
         Due.due("b: by w", x.gone(1), 2);
         Due.due("no hall", Due.of(THREE).gone(0), -1);
+        x = Due.of(THREE + Edges.halls(4, "keen hates 1"));
+        for (int shot = 0; shot < 3; shot++) {
+            Due.due("each takes one of what comes to it", x.gone(shot), shot);
+        }
     }
 
     // ---- Promise 19
@@ -337,6 +341,8 @@ public final class EdgesOfAskingTest {
             Due.due("down " + shot, x.kin(shot), 1023 & ~((2 << shot) - 1));
             Due.due("up " + shot, y.kin(shot), (1 << shot) - 1);
         }
+        x = Due.of(THREE + "needs c a;needs a b;");
+        Due.due("by the first one", x.kin(2), 3);
     }
 
     /** KIN in a ring of needs has an end, and the SHOT is among what the others need. */
@@ -567,6 +573,7 @@ public final class EdgesOfAskingTest {
     }
 
     // ---- Promise 25
+    // Of two rows that make sense both together do, too, and are longer: no two are equally the longest.
 
     /** Promise 25, "NONE: others": each what that is not 0 or 1. */
     static void p25Others() {
@@ -612,6 +619,7 @@ public final class EdgesOfAskingTest {
     }
 
     // ---- Promise 26
+    // Of two sets that mend it what they share does, too, and is less: no two are equally the fewest.
 
     /** Promise 26, "NONE: by none": what is needed is in no DRAWER, or stands behind; 0 when nothing is to be mended. */
     static void p26NoneAndNothing() {
@@ -1037,43 +1045,43 @@ public final class EdgesOfAskingTest {
     static void p35TheDrawsOfATour() {
         CountyPrint x = Due.of(HOURS.substring(0, 44) + "hall u plain hates 0;hall v plain hates 1;");
         for (int seed = 0; seed < 400; seed++) {
-            g = seed;
-            int print = 3;
-            int minutes = 0;
-            for (int show = 0; show < 6; show++) {
-                print = draw(2) == 1 ? 0 : print;
-                minutes += 60 * Integer.bitCount(print);
-                if (print != 3 && draw(4) == 0) {
-                    int drawn = 3 & ~print;
-                    int which = draw(Integer.bitCount(drawn));
-                    print |= drawn == 3 ? 1 << which : drawn;
-                }
-            }
-            Due.due("minutes of " + seed, x.tours(seed, 6, 0), minutes);
-            Due.due("print of " + seed, x.tours(seed, 6, 2), print);
+            likeToured(x, seed, 6, 3);
         }
+    }
+
+    /** Two shots of an hour, and two halls: the first takes out nothing, the second one all. */
+    private static void likeToured(CountyPrint x, int seed, int shows, int printNow) {
+        g = seed;
+        int print = printNow;
+        int minutes = 0;
+        for (int show = 0; show < shows; show++) {
+            print = draw(2) == 1 ? 0 : print;
+            minutes += 60 * Integer.bitCount(print);
+            if (print != 3 && draw(4) == 0) {
+                int drawn = 3 & ~print;
+                int which = draw(Integer.bitCount(drawn));
+                print |= drawn == 3 ? 1 << which : drawn;
+            }
+        }
+        Due.due("minutes of " + seed, x.tours(seed, shows, 0), minutes);
+        Due.due("print of " + seed, x.tours(seed, shows, 2), print);
     }
 
     /** "from now on (all is as ahead then)": with what lies in DRAWERS now; by it nothing changes. */
     static void p35AllIsAsAheadThen() {
-        CountyPrint x = Due.of(THREE + "hall u plain hates 1;");
+        CountyPrint x = Due.of(HOURS.substring(0, 44) + "hall u plain hates 0;hall v plain hates 1;");
+        x.show();
+        x.show();
+        x.give(1, 1);
         x.show();
         String ahead = Edges.told(x);
-        // Of the empty print nothing is shown; what lies in the drawer may be given back.
-        g = 0;
-        int print = 0;
-        for (int show = 0; show < 9; show++) {
-            draw(1);
-            print = 0;
-            if (draw(4) == 0) {
-                print = 1 << draw(3);
-            }
-            Due.due("print behind " + show, x.tours(0, show + 1, 2), print);
+        for (int seed = 0; seed < 50; seed++) {
+            likeToured(x, seed, 1, 2);
+            likeToured(x, seed, 3, 2);
         }
-        Due.due("minutes", x.tours(0, 99, 0), 0);
         Edges.alike("all stays", Edges.told(x), ahead);
-        Due.due("what can be undone", x.count(9), 1);
-        Due.due("tours", x.count(5), 1);
+        Due.due("what can be undone", x.count(9), 4);
+        Due.due("next", x.count(4), 1);
     }
 
     /** "how often it made no SENSE": each time, and never; "minutes that were shown": of all shows. */
